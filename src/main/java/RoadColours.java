@@ -501,6 +501,16 @@ public final class RoadColours {
             return inside;
         }
 
+        int endsOf(int set) {
+            int ends = 0;
+            for (int r = 0; r < roadCount; r++) {
+                if (isIn(set, r)) {
+                    ends |= 1 << first[r] | 1 << second[r];
+                }
+            }
+            return ends;
+        }
+
         int chainOf(int r, int x, int y) {
             int either = roadsNumbered(x) | roadsNumbered(y);
             int chain = 1 << r;
@@ -892,6 +902,12 @@ public final class RoadColours {
                 return false;
             }
             int hard = hardOnes(set);
+            if (hard == 0) {
+                return true;
+            }
+            if (mostGiven(hard) < Integer.bitCount(hard)) {
+                return false;
+            }
             clearLeft(hard);
             left[hard] = true;
             for (int n = 0; n < NUMBERS && !left[0]; n++) {
@@ -926,6 +942,16 @@ public final class RoadColours {
             return hard;
         }
 
+        /** How many roads could get numbers if each went to half of the posts: a quick no for crowded nets. */
+        int mostGiven(int hard) {
+            int pairs = Integer.bitCount(net.endsOf(hard)) / 2;
+            int given = 0;
+            for (int n = 0; n < NUMBERS; n++) {
+                given += Math.min(pairs, Integer.bitCount(roadsThatCan(hard, n)));
+            }
+            return given;
+        }
+
         void clearLeft(int hard) {
             int sets = 1 << Integer.bitCount(hard);
             int set = 0;
@@ -949,9 +975,11 @@ public final class RoadColours {
         }
 
         /** Marks what is left of a set when as many takers get the number as can: fewer would never be better. */
-        void takeOut(int set, int takers, int depth) {
-            if (takers == 0 || depth > MOST_SEARCHED) {
+        private void takeOut(int set, int takers, int depth) {
+            if (takers == 0) {
                 left[set] = true;
+            }
+            if (takers == 0 || depth >= MOST_SEARCHED) {
                 return;
             }
             int choices = 0;
@@ -995,22 +1023,18 @@ public final class RoadColours {
                 if (ways[set] != 0) {
                     long now = ways[set] * numbers;
                     ways[set] = 0;
-                    int least = set & -set;
-                    takeOut(set ^ least, (set ^ least) & ~net.beside[placeOf(least)], now, 0);
+                    int least = placeOf(set & -set);
+                    takeOut(set ^ 1 << least, set & ~net.beside[least], least, now);
                 }
             }
         }
 
-        void takeOut(int set, int others, long now, int depth) {
+        /** Adds what is left when these roads, and any of the others behind the last one taken, have the number. */
+        private void takeOut(int set, int others, int last, long now) {
             ways[set] += now;
-            if (others == 0 || depth > MOST_SEARCHED) {
-                return;
-            }
-            int behind = others;
-            for (int r = 0; r < net.roadCount; r++) {
+            for (int r = last + 1; r < net.roadCount; r++) {
                 if (isIn(others, r)) {
-                    behind ^= 1 << r;
-                    takeOut(set ^ 1 << r, behind & ~net.beside[r], now, depth + 1);
+                    takeOut(set ^ 1 << r, others & ~net.beside[r], r, now);
                 }
             }
         }
