@@ -15,8 +15,8 @@ public final class RoadColours {
     private static final int MOST_COUNTED = 9;
     private static final int LEAST_SIDE = 2;
     private static final int MOST_SIDE = 9;
-    private static final int LEAST_WEEKS = 2;
-    private static final int MOST_WEEKS = 20;
+    private static final int LEAST_MEETERS = 2;
+    private static final int MOST_MEETERS = 20;
 
     private final Net net;
     private final Square held;
@@ -263,7 +263,7 @@ public final class RoadColours {
     }
 
     public int meets(int m, int w, int i) {
-        if (m < LEAST_WEEKS || m > MOST_WEEKS || m % 2 != 0 || w < 0 || w > m - 2 || i < 0 || i >= m) {
+        if (m < LEAST_MEETERS || m > MOST_MEETERS || m % 2 != 0 || w < 0 || w > m - 2 || i < 0 || i >= m) {
             return REFUSED;
         }
         if (i == m - 1) {

@@ -415,6 +415,8 @@ public final class PromisesTest {
         more.post();
         more.road(5, 6);
         DUE.is("critical() with a road apart", more.critical(), 0);
+        RoadColours ahead = net(7, 5, 6, 0, 1, 1, 2, 2, 3, 3, 4, 4, 0);
+        DUE.is("critical() with a road apart ahead", ahead.critical(), 0);
         // Petersen's net without one post: no heap shows it, but four numbers are needed.
         RoadColours x = net(9, 0, 1, 1, 2, 2, 3, 0, 5, 1, 6, 2, 7, 3, 8, 5, 7, 7, 4, 4, 6, 6, 8, 8, 5);
         DUE.is("full(0) of Petersen's", x.full(0), 3);
@@ -459,6 +461,7 @@ public final class PromisesTest {
         DUE.is("list(0, 65536)", x.list(0, 65536), -2);
         DUE.is("list(0, -1)", x.list(0, -1), -2);
         DUE.is("list(3, 1)", x.list(3, 1), -2);
+        DUE.is("list(0, 65535)", x.list(0, 65535), 65535);
         DUE.is("list(0, 0)", x.list(0, 0), 65535);
         DUE.is("choose() of an empty list", x.choose(), 0);
         numbersAre("nothing changes", x, -1, -1, -1);
