@@ -1,16 +1,17 @@
 import java.util.Random;
 
-/** Long runs of calls, held against the plain bench call by call, with the whole state after each change. */
+/** Runs of all the calls that an object is good for, held against the plain bench call by call. */
 public final class AgainstPlainTest {
-    private static final int RUNS = 400;
-    private static final int CALLS = 400;
+    private static final int RUNS = 4000;
+    private static final int DEAREST_STEP = 40;
+    private static final int LAST_LOOK = 100;
 
     private final Due due = new Due("AgainstPlainTest");
     private final Random random;
     private final int run;
     private final int style;
-    private RoadColours bench = new RoadColours();
-    private PlainBench plain = new PlainBench();
+    private final Bench bench = Bench.fresh();
+    private final PlainBench plain = new PlainBench();
 
     private AgainstPlainTest(int run) {
         this.run = run;
@@ -25,7 +26,7 @@ public final class AgainstPlainTest {
             test.go();
             right &= test.due.allRight();
         }
-        System.out.println("AgainstPlainTest: " + RUNS + " runs of " + CALLS + " calls " + (right ? "are as due" : "are not all as due"));
+        System.out.println("AgainstPlainTest: " + RUNS + " runs of some 500 calls " + (right ? "are as due" : "are not all as due"));
         if (!right) {
             System.exit(1);
         }
@@ -34,29 +35,32 @@ public final class AgainstPlainTest {
     private void go() {
         int posts = style == 0 ? 12 : 2 + random.nextInt(11);
         for (int p = 0; p < posts; p++) {
-            is("post()", bench.post(), plain.post());
+            is("post()", bench.x().post(), plain.post());
         }
         int roads = roadsForStyle();
         for (int k = 0; k < roads; k++) {
             addRoad();
         }
-        for (int call = posts + roads; call < CALLS; call++) {
-            int kind = random.nextInt(100);
-            if (kind < 25) {
-                changeNumbers();
-            } else if (kind < 50) {
-                changeByRule();
-            } else if (kind < 60) {
-                changeNet();
-            } else if (kind < 70) {
-                search();
-            } else if (kind < 80) {
-                squareCall();
-            } else {
-                ask();
-            }
+        while (bench.callsLeft() >= DEAREST_STEP + LAST_LOOK) {
+            step(random.nextInt(100));
         }
-        sameState("the end");
+        lookAtAllRoads();
+    }
+
+    private void step(int kind) {
+        if (kind < 25) {
+            changeNumbers();
+        } else if (kind < 50) {
+            changeByRule();
+        } else if (kind < 60) {
+            changeNet();
+        } else if (kind < 70) {
+            search();
+        } else if (kind < 80) {
+            squareCall();
+        } else {
+            ask();
+        }
     }
 
     private int roadsForStyle() {
@@ -87,7 +91,7 @@ public final class AgainstPlainTest {
                 fits = fits && a % 2 != b % 2;
             }
             if (fits) {
-                is("road(" + a + ", " + b + ")", bench.road(a, b), plain.road(a, b));
+                is("road(" + a + ", " + b + ")", bench.x().road(a, b), plain.road(a, b));
                 return;
             }
         }
@@ -99,103 +103,103 @@ public final class AgainstPlainTest {
         int y = random.nextInt(random.nextBoolean() ? 18 : 5) - 1;
         switch (random.nextInt(4)) {
             case 0:
-                is("paint(" + r + ", " + x + ")", bench.paint(r, x), plain.paint(r, x));
+                is("paint(" + r + ", " + x + ")", bench.x().paint(r, x), plain.paint(r, x));
                 break;
             case 1:
-                is("swap(" + r + ", " + x + ", " + y + ")", bench.swap(r, x, y), plain.swap(r, x, y));
+                is("swap(" + r + ", " + x + ", " + y + ")", bench.x().swap(r, x, y), plain.swap(r, x, y));
                 break;
             case 2:
-                is("chain(" + r + ", " + x + ", " + y + ")", bench.chain(r, x, y), plain.chain(r, x, y));
+                is("chain(" + r + ", " + x + ", " + y + ")", bench.x().chain(r, x, y), plain.chain(r, x, y));
                 break;
             default:
-                is("paint(" + r + ", -1)", bench.paint(r, -1), plain.paint(r, -1));
+                is("paint(" + r + ", -1)", bench.x().paint(r, -1), plain.paint(r, -1));
         }
-        sameState("numbers");
+        lookAround("numbers");
     }
 
     private void changeByRule() {
         switch (random.nextInt(8)) {
             case 0:
-                is("two()", bench.two(), plain.two());
+                is("two()", bench.x().two(), plain.two());
                 break;
             case 1:
             case 2:
                 int n = 1 + random.nextInt(17);
-                is("even(" + n + ")", bench.even(n), plain.even(n));
+                is("even(" + n + ")", bench.x().even(n), plain.even(n));
                 break;
             case 3:
                 mendAll();
                 break;
             case 4:
                 if (random.nextInt(3) == 0) {
-                    is("wash()", bench.wash(), plain.wash());
+                    is("wash()", bench.x().wash(), plain.wash());
                 }
                 break;
             default:
                 int r = random.nextInt(plain.roads.size() + 1);
-                is("paint(" + r + ", -1)", bench.paint(r, -1), plain.paint(r, -1));
-                is("mend(" + r + ")", bench.mend(r), plain.mend(r));
+                is("paint(" + r + ", -1)", bench.x().paint(r, -1), plain.paint(r, -1));
+                is("mend(" + r + ")", bench.x().mend(r), plain.mend(r));
         }
-        sameState("a rule");
+        lookAround("a rule");
     }
 
     private void mendAll() {
-        is("wash()", bench.wash(), plain.wash());
+        is("wash()", bench.x().wash(), plain.wash());
         int start = random.nextInt(24);
         for (int k = 0; k < plain.roads.size(); k++) {
             int r = (start + k * 7) % 24;
-            is("mend(" + r + ")", bench.mend(r), plain.mend(r));
+            is("mend(" + r + ")", bench.x().mend(r), plain.mend(r));
         }
     }
 
     private void changeNet() {
         switch (random.nextInt(6)) {
             case 0:
-                is("drop()", bench.drop(), plain.drop());
+                is("drop()", bench.x().drop(), plain.drop());
                 break;
             case 1:
-                is("post()", bench.post(), plain.post());
+                is("post()", bench.x().post(), plain.post());
                 break;
             case 2:
                 int r = random.nextInt(plain.roads.size() + 2) - 1;
                 int list = random.nextInt(65536) & random.nextInt(65536) & random.nextInt(65536);
-                is("list(" + r + ", " + list + ")", bench.list(r, list), plain.list(r, list));
+                is("list(" + r + ", " + list + ")", bench.x().list(r, list), plain.list(r, list));
                 break;
             case 3:
                 int a = random.nextInt(14) - 1;
                 int b = random.nextInt(14) - 1;
                 if (style > 5) {
-                    is("road(" + a + ", " + b + ")", bench.road(a, b), plain.road(a, b));
+                    is("road(" + a + ", " + b + ")", bench.x().road(a, b), plain.road(a, b));
                 }
                 break;
             default:
                 addRoad();
         }
-        sameState("the net");
+        lookAround("the net");
     }
 
     private void search() {
         int n = random.nextInt(random.nextBoolean() ? 19 : 7) - 1;
         switch (random.nextInt(6)) {
             case 0:
-                is("least()", bench.least(), plain.least());
+                is("least()", bench.x().least(), plain.least());
                 break;
             case 1:
-                int got = bench.first(n);
+                int got = bench.x().first(n);
                 sameUnlessUnknown("first(" + n + ")", got, plain.first(n));
                 break;
             case 2:
-                is("count(" + n + ")", bench.count(n), plain.count(n));
+                is("count(" + n + ")", bench.x().count(n), plain.count(n));
                 break;
             case 3:
-                is("critical()", bench.critical(), plain.critical());
+                is("critical()", bench.x().critical(), plain.critical());
                 break;
             default:
                 shortLists();
-                int chosen = bench.choose();
+                int chosen = bench.x().choose();
                 sameUnlessUnknown("choose()", chosen, plain.choose());
         }
-        sameState("a search");
+        lookAround("a search");
     }
 
     private void shortLists() {
@@ -207,7 +211,7 @@ public final class AgainstPlainTest {
                 list |= 1 << shift + random.nextInt(5);
             }
             list &= 65535;
-            is("list(" + r + ", " + list + ")", bench.list(r, list), plain.list(r, list));
+            is("list(" + r + ", " + list + ")", bench.x().list(r, list), plain.list(r, list));
         }
     }
 
@@ -217,7 +221,7 @@ public final class AgainstPlainTest {
             return;
         }
         for (int r = 0; r < plain.roads.size(); r++) {
-            plain.paint(r, bench.of(r, 2));
+            plain.paint(r, bench.x().of(r, 2));
         }
     }
 
@@ -226,23 +230,23 @@ public final class AgainstPlainTest {
         switch (random.nextInt(7)) {
             case 0:
                 if (plain.side < 0 || random.nextInt(4) == 0 || plain.square.size() == plain.side) {
-                    is("square(" + s + ")", bench.square(s), plain.square(s));
+                    is("square(" + s + ")", bench.x().square(s), plain.square(s));
                 }
                 break;
             case 1:
-                is("on()", bench.on(), plain.on());
+                is("on()", bench.x().on(), plain.on());
                 break;
             case 2:
-                is("rows()", bench.rows(), plain.rows());
+                is("rows()", bench.x().rows(), plain.rows());
                 break;
             default:
                 int row = someRow();
-                is("hold(" + row + ")", bench.hold(row), plain.hold(row));
+                is("hold(" + row + ")", bench.x().hold(row), plain.hold(row));
         }
-        for (int r = -1; r < 10; r++) {
-            for (int c = -1; c < 10; c++) {
-                is("at(" + r + ", " + c + ")", bench.at(r, c), plain.at(r, c));
-            }
+        for (int k = 0; k < 6; k++) {
+            int r = random.nextInt(plain.square.size() + 2) - 1;
+            int c = random.nextInt(Math.max(0, plain.side) + 2) - 1;
+            is("at(" + r + ", " + c + ")", bench.x().at(r, c), plain.at(r, c));
         }
     }
 
@@ -270,26 +274,35 @@ public final class AgainstPlainTest {
         int r = random.nextInt(26) - 1;
         int p = random.nextInt(14) - 1;
         int heap = random.nextInt(10) == 0 ? random.nextInt(8192) - 2 : random.nextInt(1 << plain.posts);
-        is("of(" + r + ", " + what + ")", bench.of(r, what), plain.of(r, what));
-        is("roads(" + p + ")", bench.roads(p), plain.roads(p));
-        is("free(" + p + ")", bench.free(p), plain.free(p));
-        is("clash()", bench.clash(), plain.clash());
-        is("heaps()", bench.heaps(), plain.heaps());
-        is("full(" + what + ")", bench.full(what), plain.full(what));
-        is("need(" + heap + ")", bench.need(heap), plain.need(heap));
-        is("many(" + what + ")", bench.many(what), plain.many(what));
+        is("of(" + r + ", " + what + ")", bench.x().of(r, what), plain.of(r, what));
+        is("roads(" + p + ")", bench.x().roads(p), plain.roads(p));
+        is("free(" + p + ")", bench.x().free(p), plain.free(p));
+        is("clash()", bench.x().clash(), plain.clash());
+        is("heaps()", bench.x().heaps(), plain.heaps());
+        is("full(" + what + ")", bench.x().full(what), plain.full(what));
+        is("need(" + heap + ")", bench.x().need(heap), plain.need(heap));
+        is("many(" + what + ")", bench.x().many(what), plain.many(what));
         if (random.nextInt(4) == 0) {
-            is("heap()", bench.heap(), plain.heap());
+            is("heap()", bench.x().heap(), plain.heap());
         }
     }
 
-    private void sameState(String after) {
+    /** Some of the roads alone: all of them, after each change, would leave no calls for changes. */
+    private void lookAround(String after) {
+        for (int k = 0; k < 6; k++) {
+            int r = random.nextInt(plain.roads.size() + 1);
+            int what = random.nextInt(3) == 0 ? random.nextInt(4) : 2;
+            is("after " + after + " of(" + r + ", " + what + ")", bench.x().of(r, what), plain.of(r, what));
+        }
+        is("after " + after + " clash()", bench.x().clash(), plain.clash());
+    }
+
+    private void lookAtAllRoads() {
         for (int r = 0; r < 24; r++) {
             for (int what = 0; what < 4; what++) {
-                is("after " + after + " of(" + r + ", " + what + ")", bench.of(r, what), plain.of(r, what));
+                is("at the end of(" + r + ", " + what + ")", bench.x().of(r, what), plain.of(r, what));
             }
         }
-        is("after " + after + " clash()", bench.clash(), plain.clash());
     }
 
     private void is(String call, long got, long want) {
