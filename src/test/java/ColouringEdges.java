@@ -200,6 +200,7 @@ final class ColouringEdges {
         later.x().drop();
         due.is("when it is opened", later.x().heaps(), 1);
         due.is("more than 16 at a post", Bench.between(24).x().heaps(), 1);
+        due.is("parts whose posts come by turns", Bench.net(8, 0, 2, 1, 3, 2, 4, 3, 5, 4, 6, 5, 7).x().heaps(), 1);
     }
 
     @Asks("All roads are COLOURED as in TWO HEAPS: FULL.")

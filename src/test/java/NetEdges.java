@@ -156,6 +156,19 @@ final class NetEdges {
         due.is("with all in its LIST", b.x().of(2, 3), 65535);
     }
 
+    @Asks("The latest road goes: how many are left.")
+    static void promise04NothingOfItIsLeftForTheNext(Due due) {
+        Bench b = Bench.net(6, 0, 1, 2, 3, 1, 2).painted(0, 0, 0);
+        due.is("clash() with a road between the two", b.x().clash(), 0);
+        b.x().drop();
+        due.is("the next one, elsewhere", b.x().road(4, 5), 2);
+        b.x().paint(2, 0);
+        due.is("clash() without a road between them", b.x().clash(), -1);
+        due.is("chain() of one of them", b.x().chain(0, 0, 1), 1);
+        due.is("least() of roads apart", b.x().least(), 1);
+        due.is("count(2) of roads apart", b.x().count(2), 8);
+    }
+
     @Asks("-2 when there is none.")
     static void promise04NoneLeft(Due due) {
         due.refused(Bench.fresh(), "drop() of a new object", RoadColours::drop);
