@@ -132,7 +132,7 @@ public final class RoadColours {
 
     public int two() {
         int full = net.fullest();
-        if (full > NUMBERS || !net.isInTwoHeaps()) {
+        if (!net.isInTwoHeaps() || full > NUMBERS) {
             return REFUSED;
         }
         net.colourTwoHeaps(full);
@@ -263,7 +263,7 @@ public final class RoadColours {
     }
 
     public int meets(int m, int w, int i) {
-        if (m < LEAST_MEETERS || m > MOST_MEETERS || m % 2 != 0 || w < 0 || w > m - 2 || i < 0 || i >= m) {
+        if (m % 2 != 0 || m < LEAST_MEETERS || m > MOST_MEETERS || w < 0 || w > m - 2 || i < 0 || i >= m) {
             return REFUSED;
         }
         if (i == m - 1) {

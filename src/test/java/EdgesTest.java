@@ -2,8 +2,6 @@ import java.io.IOException;
 import java.lang.reflect.InvocationTargetException;
 import java.lang.reflect.Method;
 import java.lang.reflect.Modifier;
-import java.nio.file.Files;
-import java.nio.file.Path;
 import java.util.ArrayList;
 import java.util.Arrays;
 import java.util.Comparator;
@@ -14,16 +12,13 @@ import java.util.regex.Matcher;
 import java.util.regex.Pattern;
 
 /**
- * Runs every test of the document's edges, each named after its promise and quoting the words that it holds the
- * class to; and looks that the words stand there, and that every sentence of the document is quoted by a test.
+ * Runs every test of the document's sentences, each named after its promise and quoting the words that it holds the
+ * class to; and looks that the words stand there, and that every word of the document's promises is quoted by a test.
  */
 public final class EdgesTest {
-    private static final Class<?>[] TESTS = {TermsEdges.class, MendTwoEvenEdges.class, NetEdges.class,
-        ColouringEdges.class, SearchEdges.class, SquareEdges.class};
-    private static final Path DOCUMENT = Path.of("../shared/DOC.md");
-    private static final Pattern NAME = Pattern.compile("(terms|promise)(\\d\\d)[A-Z]\\w*");
-    private static final Pattern PROMISE = Pattern.compile("## Promise (\\d+): .*");
-    private static final Pattern TERM = Pattern.compile("(\\d)\\. .*");
+    private static final Class<?>[] TESTS = {BenchEdges.class, TermsEdges.class, MendTwoEvenEdges.class,
+        NetEdges.class, ColouringEdges.class, SearchEdges.class, SquareEdges.class};
+    private static final Pattern NAME = Pattern.compile("(bench|terms|promise)(\\d\\d)[A-Z]\\w*");
 
     private int run = 0;
     private int failed = 0;
@@ -79,6 +74,7 @@ public final class EdgesTest {
     }
 
     private void everyPromiseHasOne() {
+        needsOne("bench00");
         for (int n = 0; n <= 4; n++) {
             needsOne(String.format("terms%02d", n));
         }
@@ -94,11 +90,11 @@ public final class EdgesTest {
     }
 
     private void compareWithDocument() throws IOException {
-        if (!Files.isReadable(DOCUMENT)) {
-            System.out.println("EdgesTest: " + DOCUMENT + " is not here: the quoted words are not compared with it");
+        if (!Document.isHere()) {
+            System.out.println("EdgesTest: the document is not here: the quoted words are not compared with it");
             return;
         }
-        Map<String, String> sections = sections(Files.readAllLines(DOCUMENT));
+        Map<String, String> sections = Document.read().sections;
         for (Map.Entry<String, List<String>> entry : quoted.entrySet()) {
             String text = sections.getOrDefault(entry.getKey(), "");
             for (String words : entry.getValue()) {
@@ -108,37 +104,22 @@ public final class EdgesTest {
             }
         }
         for (Map.Entry<String, String> entry : sections.entrySet()) {
-            for (String sentence : entry.getValue().split("(?<=[^.]\\.\\)?) +")) {
-                List<String> words = quoted.getOrDefault(entry.getKey(), List.of());
-                if (words.stream().noneMatch(sentence::contains)) {
-                    fail(entry.getKey() + " has no test for the sentence: " + sentence);
-                }
-            }
+            everyWordIsQuoted(entry.getKey(), entry.getValue());
         }
     }
 
-    /** The texts of the terms, 0 being what stands ahead of the first, and of the promises, each in one line. */
-    private static Map<String, String> sections(List<String> lines) {
-        Map<String, String> sections = new LinkedHashMap<>();
-        String section = "";
-        for (String line : lines) {
-            Matcher promise = PROMISE.matcher(line);
-            Matcher term = TERM.matcher(line);
-            String words = line.strip();
-            if (promise.matches()) {
-                section = String.format("promise%02d", Integer.parseInt(promise.group(1)));
-                continue;
-            } else if (line.startsWith("#")) {
-                section = line.equals("## Terms") ? "terms00" : "";
-            } else if (section.startsWith("terms") && term.matches()) {
-                section = "terms0" + term.group(1);
-                words = words.substring(3);
-            }
-            if (!section.isEmpty() && !words.isEmpty() && !line.startsWith("#") && !line.startsWith("```")) {
-                sections.merge(section, words.replaceFirst("^`[^`]*`: ", ""), (one, two) -> one + " " + two);
+    private void everyWordIsQuoted(String section, String text) {
+        char[] left = text.toCharArray();
+        for (String words : quoted.getOrDefault(section, List.of())) {
+            for (int at = text.indexOf(words); at >= 0; at = text.indexOf(words, at + 1)) {
+                Arrays.fill(left, at, at + words.length(), '\n');
             }
         }
-        return sections;
+        for (String words : new String(left).split("\n+")) {
+            if (words.chars().anyMatch(Character::isLetterOrDigit)) {
+                fail(section + " has no test for the words: " + words.strip());
+            }
+        }
     }
 
     private void fail(String what) {

@@ -28,10 +28,25 @@ public final class LanguageRulesTest {
     }
 
     public static void main(String[] args) throws IOException {
+        faceIsTheDocuments();
         face();
         classesInside();
         source(Files.readAllLines(Path.of("src/main/java/RoadColours.java")));
         DUE.end();
+    }
+
+    /** The document's own lines of the face, without the names of what a call takes. */
+    private static void faceIsTheDocuments() throws IOException {
+        if (!Document.isHere()) {
+            return;
+        }
+        List<String> calls = new ArrayList<>();
+        for (String line : Document.read().face) {
+            if (line.matches("public (int|long) .*")) {
+                calls.add(line.replaceAll("public |;", "").replaceAll("int \\w+(?=[,)])", "int").replace(", ", ","));
+            }
+        }
+        DUE.same("the face that is looked for", FACE, String.join("; ", calls));
     }
 
     private static void face() {

@@ -114,6 +114,30 @@ final class MendTwoEvenEdges {
         due.numbers(turned, "two() with the other swap", 1, 0, 0, 1, 1, 0);
     }
 
+    @Asks("with a being the least number FREE at its FIRST post, b the least FREE at its SECOND")
+    static void terms02TwoSwapsTheLeastFreeOfEach(Due due) {
+        // Road 7 finds 1 and 2 at its FIRST post, 0 at its SECOND: a is 0, and b is 1, not 2, which is free there too.
+        Bench b = Bench.net(9, 1, 4, 4, 5, 4, 6, 7, 2, 8, 3, 0, 2, 0, 3, 0, 1);
+        due.is("two()", b.x().two(), 3);
+        due.numbers(b, "two() with a chain of 0 and 1", 1, 0, 2, 0, 0, 1, 2, 0);
+        // Told the other way round a is 1, not 2, which is free there too, and b is 0.
+        Bench turned = Bench.net(9, 1, 4, 4, 5, 4, 6, 7, 2, 8, 3, 0, 2, 0, 3, 1, 0);
+        due.is("two() turned", turned.x().two(), 3);
+        due.numbers(turned, "two() with a chain of 1 and 0", 0, 1, 2, 1, 0, 0, 2, 1);
+    }
+
+    @Asks("again and again")
+    static void terms02EvenGoesOnWithOtherNumbers(Due due) {
+        // y is 1, 2, 1, 2 in turn, as each swap makes another number that which fewest roads have.
+        Bench b = Bench.apart(6).painted(0, 0, 0, 0, 0, 0);
+        due.is("even(3)", b.x().even(3), 4);
+        due.numbers(b, "even(3)", 1, 2, 1, 2, 0, 0);
+        // x is 1 first, then 0, whose chain at road 1 has got a road of y by the first swap.
+        Bench two = Bench.net(12, 0, 1, 1, 2, 3, 4, 4, 5, 6, 7, 7, 8, 9, 10).painted(1, 0, 1, 0, 1, 0, 1);
+        due.is("even(3) of two numbers", two.x().even(3), 2);
+        due.numbers(two, "even(3) of two numbers", 2, 0, 1, 2, 1, 0, 1);
+    }
+
     @Asks("if x's roads are two more than y's, or more")
     static void terms02EvenNeedsTwoMore(Due due) {
         Bench same = Bench.apart(4).painted(1, 0, 1, 0);

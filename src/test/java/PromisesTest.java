@@ -26,7 +26,6 @@ public final class PromisesTest {
         squares();
         weeks();
         farArguments();
-        lastCalls();
         DUE.end();
     }
 
@@ -565,28 +564,6 @@ public final class PromisesTest {
                 }
             }
         }
-    }
-
-    /** The last call of which an answer is promised is the 512th. */
-    private static void lastCalls() {
-        Bench b = Bench.circle(5);
-        b.x().square(9);
-        while (b.callsLeft() > 12) {
-            b.x().paint(b.callsLeft() % 5, -1);
-        }
-        DUE.is("the 501st call", b.x().first(3), 1);
-        DUE.is("the 502nd call", b.x().count(3), 30);
-        DUE.is("the 503rd call", b.x().critical(), 1);
-        DUE.is("the 504th call", b.x().heap(), 31);
-        DUE.is("the 505th call", b.x().on(), 12345678);
-        DUE.is("the 506th call", b.x().rows(), 133496);
-        DUE.is("the 507th call", b.x().even(3), 0);
-        DUE.is("the 508th call", b.x().paint(4, -1), 2);
-        DUE.is("the 509th call", b.x().mend(4), 1);
-        DUE.is("the 510th call", b.x().choose(), 1);
-        DUE.is("the 511th call", b.x().of(4, 2), 2);
-        DUE.is("the 512th call", b.x().post(), 5);
-        DUE.is("calls left", b.callsLeft(), 0);
     }
 
     /** Refused with the state as it was, whatever the argument. */
